@@ -683,7 +683,7 @@ public final class EditionGrid {
         /** Fills the columns with the lines firstLine .. endLine - 1, which they can take. */
         void fill(int firstLine, int endLine, long goodEnds, int[] inColumn) {
             fillableFrom[count] = 1L << endLine;
-            for (int c = count - 1; c >= 0; c--) {
+            for (int c = count - 1; c > 0; c--) {
                 long begins = 0;
                 for (int taken = 0; taken <= rooms[c]; taken++) {
                     begins |= fillableFrom[c + 1] >>> taken;

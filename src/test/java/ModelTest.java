@@ -14,7 +14,7 @@ import java.util.function.Consumer;
  * it writes out all ways, places and rows where the program counts in arrays and bits.
  */
 public final class ModelTest {
-    private static final int RUNS = 1000;
+    private static final int RUNS = 600;
     private static int wrong = 0;
 
     public static void main(String[] args) {

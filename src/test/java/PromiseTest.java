@@ -33,6 +33,7 @@ public final class PromiseTest {
         held();
         heldForLength();
         lines();
+        linesOfTheLongestParagraph();
         cost();
         costOfTies();
         partWhole();
@@ -40,6 +41,7 @@ public final class PromiseTest {
         partWithFigure();
         partJump();
         partJumpFromMiddle();
+        partJumpFromTwoRows();
         partJumpWithFigure();
         cell();
         cellOfJump();
@@ -525,6 +527,7 @@ public final class PromiseTest {
         due("a word that is too wide", grid.held(0), 1);
         due("no lines", grid.held(1), 2);
         due("a figure that is too wide", grid.held(2), 3);
+        due("one behind a story that has a place", planned(2, 4, 16, "#1a\nab\n#1b\n=31\nab\n").held(1), 3);
         due("not held", grid.held(3), 0);
         due("no such story", grid.held(4), -1);
         due("no such story", grid.held(-1), -1);
@@ -570,6 +573,21 @@ public final class PromiseTest {
         due("of none", grid.lines(-1), -1);
         grid = planned(1, 4, 18, "#1a\nab cd ef\nab\n");
         due("with a unit less", grid.lines(0), 4);
+    }
+
+    private static void linesOfTheLongestParagraph() {
+        String longest = "abcdefghijkl" + times(" abcdefghijkl", 15);
+        EditionGrid grid = planned(4, 16, 60, "#1a\n" + longest + "\n" + longest + "\n");
+        due("a word a line", grid.lines(0), 32);
+        due("with 12 units left", grid.cost(0, 1), 15 * 144);
+        for (char letter = 'a'; letter <= 'l'; letter++) {
+            grid.metric(letter, 1);
+        }
+        pattern(grid, "0j1k0");
+        grid.plan();
+        due("four words a line", grid.lines(0), 8);
+        due("with 3 units left", grid.cost(0, 1), 27);
+        dueInk(grid, 0, 0, 1, "abcdefghijkl....abcdefghijkl....abcdefghijkl....abcdefghijkl");
     }
 
     // Promise 12
@@ -700,6 +718,14 @@ public final class PromiseTest {
         duePart(grid, 0, 1, 1, 0, 0, 1, 4, 2, 3, 3);
         grid = planned(1, 6, 16, "#1a\nab ab ab\nab ab ab\n");
         duePart(grid, 0, 0, 0, 0, 0, 1, 6, 0, 3, 3);
+    }
+
+    private static void partJumpFromTwoRows() {
+        EditionGrid grid = planned(3, 4, 16, "#9a\nab\n#1b\nab\nab\nab" + times(" ab", 7) + "\n");
+        duePart(grid, 1, 0, 0, 0, 2, 3, 2, 0, 2, 1, 1, 0, 0);
+        duePart(grid, 1, 1, 1, 0, 0, 3, 4, 2, 8, 3, 3, 2, 0);
+        dueCells(grid, 0, 1, 180, 90, 280, 201);
+        dueCells(grid, 0, 2, 180, 90, 280, 282);
     }
 
     private static void partJumpWithFigure() {
