@@ -384,6 +384,11 @@ public final class EditionGrid {
             this.height = height;
         }
 
+        void takeLines(int first, int end) {
+            firstLine = first;
+            lineCount = end - first;
+        }
+
         int tell(int what) {
             switch (what) {
                 case 0:
@@ -793,10 +798,10 @@ public final class EditionGrid {
                 story.reason = WRONG_LENGTH;
             } else if (placeWhole(story, 0, 0)) {
                 story.partCount = 1;
-                putFirstPart(story);
+                putFirstPart(story, 0);
             } else if (placeJump(story)) {
                 story.partCount = 2;
-                putFirstPart(story);
+                putFirstPart(story, 1);
                 putSecondPart(story);
             } else {
                 story.reason = NO_PLACE;
@@ -812,7 +817,7 @@ public final class EditionGrid {
             for (int page = firstPage; page < PAGES; page++) {
                 for (int k = sheets.columns; k >= 1; k--) {
                     if (heights[k] != NONE && sheets.standFirst(part, page, k, heights[k])) {
-                        fillPart(story, part, firstLine, story.lineCount, 0);
+                        part.takeLines(firstLine, story.lineCount);
                         return true;
                     }
                 }
@@ -828,14 +833,6 @@ public final class EditionGrid {
                 }
             }
             return NONE;
-        }
-
-        private void fillPart(Story story, Part part, int firstLine, int endLine, int signRows) {
-            part.firstLine = firstLine;
-            part.lineCount = endLine - firstLine;
-            if (columns.setRooms(story, firstLine, part.k, part.height - 1, signRows)) {
-                columns.fill(firstLine, endLine, story.goodEnds(), part.inColumn);
-            }
         }
 
         private boolean placeJump(Story story) {
@@ -869,7 +866,7 @@ public final class EditionGrid {
                 return false;
             }
             story.parts[0].stand(page, x, y, k, height);
-            fillPart(story, story.parts[0], 0, split, 1);
+            story.parts[0].takeLines(0, split);
             return true;
         }
 
@@ -883,9 +880,10 @@ public final class EditionGrid {
             return NONE;
         }
 
-        private void putFirstPart(Story story) {
+        private void putFirstPart(Story story, int signRows) {
             Part part = story.parts[0];
             int base = 100 * (story.number + 1);
+            fillPart(story, part, signRows);
             putNothing(part);
             for (int c = 0; c < part.k; c++) {
                 sheets.put(part.page, part.x + c, part.y, base + HEADLINE);
@@ -896,7 +894,7 @@ public final class EditionGrid {
                 }
             }
             putLines(part, base, story.figureColumns, story.figureRows);
-            if (story.partCount == 2) {
+            if (signRows > 0) {
                 sheets.put(part.page, part.x + part.k - 1, part.y + part.height - 1, base + ONWARD);
             }
         }
@@ -904,9 +902,16 @@ public final class EditionGrid {
         private void putSecondPart(Story story) {
             Part part = story.parts[1];
             int base = 100 * (story.number + 1);
+            fillPart(story, part, 0);
             putNothing(part);
             sheets.put(part.page, part.x, part.y, base + BACKWARD);
             putLines(part, base, 0, 0);
+        }
+
+        private void fillPart(Story story, Part part, int signRows) {
+            if (columns.setRooms(story, part.firstLine, part.k, part.height - 1, signRows)) {
+                columns.fill(part.firstLine, part.firstLine + part.lineCount, story.goodEnds(), part.inColumn);
+            }
         }
 
         private void putNothing(Part part) {
