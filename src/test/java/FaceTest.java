@@ -7,7 +7,10 @@ import java.util.Random;
 import java.util.Set;
 import java.util.TreeSet;
 
-/** The public face is the document's, and no call throws, whatever its arguments are. */
+/**
+ * The public face is the document's, no call throws, whatever its arguments are, and what the
+ * compiled class shows of it keeps to the rules 1, 5 and 11 of LANGUAGE.md.
+ */
 public final class FaceTest {
     private static final String[] FACE = {
         "public static final int EditionGrid.NONE",
@@ -47,6 +50,15 @@ public final class FaceTest {
         due("ROOM", EditionGrid.ROOM, -2);
         due("final", Modifier.isFinal(EditionGrid.class.getModifiers()), true);
         due("public", Modifier.isPublic(EditionGrid.class.getModifiers()), true);
+        int classes = 1 + EditionGrid.class.getDeclaredClasses().length;
+        due("some twelve classes", classes <= 12, true);
+        dueRules(EditionGrid.class);
+        for (Class<?> inside : EditionGrid.class.getDeclaredClasses()) {
+            int modifiers = inside.getModifiers();
+            due(inside + " is static", Modifier.isStatic(modifiers), true);
+            due(inside + " is not public", Modifier.isPublic(modifiers) || Modifier.isProtected(modifiers), false);
+            dueRules(inside);
+        }
         for (int run = 0; run < 400; run++) {
             callWithAnything(new Random(run), run);
         }
@@ -54,6 +66,31 @@ public final class FaceTest {
         if (wrong != 0) {
             System.exit(1);
         }
+    }
+
+    private static void dueRules(Class<?> type) {
+        int fields = 0;
+        for (Field field : type.getDeclaredFields()) {
+            boolean isStatic = Modifier.isStatic(field.getModifiers());
+            fields += isStatic ? 0 : 1;
+            due(field + " is final if it is static", !isStatic || Modifier.isFinal(field.getModifiers()), true);
+        }
+        due(type + " has at most twenty fields", fields <= 20, true);
+        for (Method method : type.getDeclaredMethods()) {
+            due(method + " has at most seven parameters", method.getParameterCount() <= 7, true);
+            if (!Modifier.isPublic(method.getModifiers())) {
+                due(method + " has a name of the face", isOfTheFace(method.getName()), false);
+            }
+        }
+    }
+
+    private static boolean isOfTheFace(String name) {
+        for (Method method : EditionGrid.class.getMethods()) {
+            if (method.getDeclaringClass() == EditionGrid.class && method.getName().equals(name)) {
+                return true;
+            }
+        }
+        return false;
     }
 
     private static void addMember(Set<String> face, int modifiers, String member) {
