@@ -1,5 +1,6 @@
 import java.util.ArrayList;
 import java.util.List;
+import java.util.StringJoiner;
 
 /**
  * A run of calls that is made anew on a fresh object for every look at it: so all of an object can
@@ -71,6 +72,37 @@ final class Replay {
     /** What one more call answers; it is not made part of the run. */
     int ask(Call call) {
         return call.on(made());
+    }
+
+    /** The units of a cell as a text, with . for 0; empty when there is no such cell. */
+    String units(int page, int column, int row) {
+        EditionGrid grid = made();
+        StringBuilder units = new StringBuilder();
+        for (int x = 0; grid.ink(page, column, row, x) != -1; x++) {
+            int ink = grid.ink(page, column, row, x);
+            units.append(ink == 0 ? '.' : (char) ink);
+        }
+        return units.toString();
+    }
+
+    /** What stands in the cells of a column, from its first row to its last one. */
+    String cells(int page, int column) {
+        EditionGrid grid = made();
+        StringJoiner cells = new StringJoiner(" ");
+        for (int row = 0; grid.cell(page, column, row) != -1; row++) {
+            cells.add(String.valueOf(grid.cell(page, column, row)));
+        }
+        return cells.toString();
+    }
+
+    /** What part() tells for what = 0 .. 10: page, x, y, k, height, first line, lines, and in each column. */
+    String told(int story, int part) {
+        EditionGrid grid = made();
+        StringJoiner told = new StringJoiner(" ");
+        for (int what = 0; what <= 10; what++) {
+            told.add(String.valueOf(grid.part(story, part, what)));
+        }
+        return told.toString();
     }
 
     EditionGrid made() {
