@@ -184,6 +184,7 @@ public final class SentenceTest {
         due("a greater one", cutsWith("aabaab", "0a1", "0a2b0"), 16);
         due("a lesser one", cutsWith("aabaab", "0a3", "0a2b0"), 4 + 16);
         due("none", cutsWith("aabaab", "0x1"), 0);
+        due("none of the word before it", fresh().pattern("0a1").then(g -> Replay.cuts(g, "aaaaaa")).ask(g -> Replay.cuts(g, "xxxxxx")), 0);
         says("The word may be CUT behind its k-th letter (2 <= k, and at least 2 letters behind it) when the value there is "
                 + "odd.");
         due("an odd value", cutsWith("aaaaaa", "0a9"), 4 + 8 + 16);
@@ -205,6 +206,8 @@ public final class SentenceTest {
                 + "a line end behind it; a part is a PARAGRAPH, or = and two digits 1 .. 9, a FIGURE (columns, rows).");
         due("no #", faultIn("1a\nb\n"), 0);
         due("no digit", faultIn("#ab\nc\n"), 1);
+        due("the sign before 0", faultIn("#/a\nb\n"), 1);
+        due("the sign behind 9", faultIn("#:a\nb\n"), 1);
         due("the digits", reads("#0a\nb\n#9a\nb\n"), 2);
         due("no headline", faultIn("#1\nb\n"), 2);
         due("no line end behind it", faultIn("#1a=11\n"), 3);
@@ -270,6 +273,8 @@ public final class SentenceTest {
         due("where a word is cut", both.units(0, 0, 2), "aaaabbbbcccc--......");
         due("the rest of it, and the next word", both.units(0, 0, 3), "ddddeeeeffff...gggg.");
         due("no more lines", linesOf(both), 3);
+        Replay begin = new Replay(1, 6, 20).pattern("0.0a0b0c1").feed("#1a\nxabcx abcdefgh\n").read().plan();
+        due("at the begin of the second word", begin.units(0, 0, 2), "aaaabbbbcccc--......");
         says("A line is as wide as its letters, the spaces between its words and its hyphen; it is at most W wide.");
         due("19 units", linesOf(Replay.planned(1, 6, 19, "#1a\nab cd\n")), 1);
         due("19 of 18 units", linesOf(Replay.planned(1, 6, 18, "#1a\nab cd\n")), 2);
@@ -399,6 +404,8 @@ public final class SentenceTest {
         due("without a figure", figure.told(0, 1), "1 0 0 1 3 2 2 2 0 0 0");
         due("m would be 1", heldFor(planned(1, 6, "#1a\n=13\nab\nab\nab\nab\n"), 0), 3);
         due("pages 0 and 1 are full", heldFor(planned(1, 4, "#9a\nab ab ab\n#9b\nab ab ab\n#1c\nab ab ab ab\n"), 2), 3);
+        Replay least = planned(3, 4, "#9a\nab\n#1b\nab\nab\nab" + " ab".repeat(7) + "\n");
+        due("a height of 2, room for 1, 1 and 0", least.told(1, 0), "0 0 2 3 2 0 2 1 1 0 0");
         Replay small = planned(3, 4, "#9a\nab ab\n#1b\nab\nab\nab" + " ab".repeat(7) + "\n");
         due("a height of 1 is too little; 3 in the first column would be bad", small.told(1, 0), "1 0 0 3 4 0 7 2 3 2 0");
         says("The first place for which there is such an m and, with it, such a place takes these lines; the story's second "
@@ -537,7 +544,8 @@ public final class SentenceTest {
         due("n = 0", fresh().ask(g -> g.pattern('a', 0, 0)), -1);
         due("n = 7", fresh().ask(g -> g.pattern(0x61616161616161L, 7, 0)), -1);
         due("a sign A", answerTo("0A0"), -1);
-        due("a value 10", fresh().ask(g -> g.pattern('a', 1, 10)), -1);
+        due("a value 10 behind", fresh().ask(g -> g.pattern('a', 1, 0x000A)), -1);
+        due("a value 10 before", fresh().ask(g -> g.pattern('a', 1, 0x0A00)), -1);
         due("a dot alone", answerTo("0.0"), -1);
         due("a dot between letters", answerTo("0a0.0b0"), -1);
         due("a 21st", twentyPatterns().ask(g -> Replay.pattern(g, "0z1")), -2);
@@ -605,6 +613,8 @@ public final class SentenceTest {
         Replay other = run.copy().clear().feed("#1c\nd\n").read().plan();
         due("in place of them", other.units(0, 0, 0), "cccc............");
         due("one alone", heldFor(other, 1), -1);
+        Replay figure = planned(1, 4, "#1a\n=12\nb\nb\n").clear().feed("#1c\nd\n").read().plan();
+        due("their figures are gone", figure.cells(0, 0), "180 100 0 0");
         says("With a fault: NONE, and there are no stories.");
         Replay wrong = run.copy().feed("!");
         due("NONE", wrong.ask(EditionGrid::read), -1);
@@ -629,6 +639,11 @@ public final class SentenceTest {
         due("planned once", run.cells(0, 0), "180 100 101 0");
         run.metric('a', 1).metric('b', 1).metric('c', 1).metric('d', 1).plan();
         due("planned again, where it was", run.cells(0, 0), "180 100 0 0");
+        Replay held = run.copy().metric('a', 9).metric('b', 9).plan();
+        due("held now", heldFor(held, 0), 1);
+        due("its part is gone", held.ask(g -> g.part(0, 0, 4)), -1);
+        due("all is free", held.cells(0, 0), "0 0 0 0");
+        due("not held any more", held.metric('a', 1).metric('b', 1).plan().cells(0, 0), "180 100 0 0");
         says("How many are not held; NONE when there are no stories.");
         due("one of one", run.ask(EditionGrid::plan), 1);
         due("one of three", planned(1, 4, "#1a\nabcde\n#1b\n=11\n#1c\nab\n").ask(EditionGrid::plan), 1);
@@ -674,6 +689,7 @@ public final class SentenceTest {
         due("held for 3", oneOfEach().ask(g -> g.cost(2, 0)), 64);
         due("not held", oneOfEach().ask(g -> g.cost(3, 0)), 3 * 64);
         due("paragraph 1 of 1", oneOfEach().ask(g -> g.cost(3, 1)), -1);
+        due("paragraph 4", oneOfEach().ask(g -> g.cost(3, 4)), -1);
         due("paragraph -1", oneOfEach().ask(g -> g.cost(3, -1)), -1);
         due("no such story", oneOfEach().ask(g -> g.cost(4, 0)), -1);
         due("not planned", oneOfEach().read().ask(g -> g.cost(3, 0)), -1);
@@ -687,6 +703,7 @@ public final class SentenceTest {
         Replay run = planned(2, 6, "#9a\nab\n#1b\nab ab ab ab\nab ab ab ab\nab\nab ab ab ab\n");
         due("a story in one part", run.told(0, 0), "0 0 0 2 2 0 1 1 0 0 0");
         due("it has no part 1", run.told(0, 1), none);
+        due("nor a part 2", run.told(0, 2), none);
         due("room for 3 and 2", run.told(1, 0), "0 0 2 2 4 0 4 2 2 0 0");
         due("the other lines", run.told(1, 1), "1 0 0 2 6 4 9 5 4 0 0");
         due("no part 2", run.told(1, 2), none);
@@ -726,6 +743,7 @@ public final class SentenceTest {
         due("what is seen", run.units(0, 0, 1), "aaaabbbbccccdddd");
         due("x = -1", run.ask(g -> g.ink(0, 0, 1, -1)), -1);
         due("x = 16", run.ask(g -> g.ink(0, 0, 1, 16)), -1);
+        due("x = 17", run.ask(g -> g.ink(0, 0, 1, 17)), -1);
         due("no such page", run.ask(g -> g.ink(3, 0, 1, 0)), -1);
         due("no such column", run.ask(g -> g.ink(0, 1, 1, 0)), -1);
         due("no such row", run.ask(g -> g.ink(0, 0, 4, 0)), -1);
